@@ -73,11 +73,13 @@ public final class MarkBlocks {
         forget();
         reader.start();
         for (int n = 0; n < TAPE_LIMIT && line.takeNext(tape); n++) {
-            if (!reader.take(n)) {
+            reader.goOn(n);
+            if (!reader.lookForBeginnings()) {
                 forget();
                 faultLine = n;
                 throw new IllegalArgumentException("too deep");
             }
+            reader.takeRest();
             lines = n + 1;
         }
         reader.finish();
@@ -115,7 +117,7 @@ public final class MarkBlocks {
     }
 
     public int find() {
-        return labels.known(tape, 0, tape.size());
+        return labels.withLabel(tape, 0, tape.size());
     }
 
     public int about(int what) {
@@ -411,7 +413,10 @@ public final class MarkBlocks {
 
         void moveTo(int newPlace) {
             place = Math.min(newPlace, signs.size());
-            indent = spacesAt(place);
+            indent = 0;
+            while (place + indent < signs.size() && signs.at(place + indent) == SPACE) {
+                indent++;
+            }
         }
 
         void moveOn(int signsFurther) {
@@ -422,9 +427,14 @@ public final class MarkBlocks {
             return !isTooFar() && signs.at(start()) == '>';
         }
 
-        void passQuoteMark() {
+        /** False, and the place stays, if no quote's mark stands there. */
+        boolean passQuoteMark() {
+            if (!hasQuoteMark()) {
+                return false;
+            }
             int behind = start() + 1;
             moveTo(signs.at(behind) == SPACE ? behind + 1 : behind);
+            return true;
         }
 
         /** 0 without a heading's mark. */
@@ -592,16 +602,23 @@ public final class MarkBlocks {
             hand = 0;
         }
 
-        /** False if the line is too deep. */
-        boolean take(int lineNumber) {
+        /** Step 1: finds the block at hand. */
+        void goOn(int lineNumber) {
             number = lineNumber;
             done = false;
             begun = false;
-            goOn();
+            hand = 0;
+            for (int i = 1; i <= tip && goesOn(openAt(i)); i++) {
+                hand = i;
+            }
+        }
+
+        /** Step 2: false if the line is too deep. */
+        boolean lookForBeginnings() {
             for (int turn = 0; turn < MOST_BEGINNINGS && !done && kindAtHand() != CODE; turn++) {
-                int beginning = lookForBeginning();
+                int beginning = beginningAtPlace();
                 if (beginning == NONE) {
-                    break;
+                    return true;
                 }
                 if (beginning == UNDERLINED) {
                     underline();
@@ -613,19 +630,23 @@ public final class MarkBlocks {
                     return false;
                 }
             }
+            return true;
+        }
+
+        /** Step 3. */
+        void takeRest() {
             if (done) {
-                return true;
+                return;
             }
             if (goesOnWithoutMarks()) {
                 addToParagraph(openAt(tip));
-                return true;
+                return;
             }
             if (!line.isBlank() && kindAtHand() == LIST) {
                 hand--;
             }
             close();
             addRest();
-            return true;
         }
 
         void finish() {
@@ -641,33 +662,15 @@ public final class MarkBlocks {
             return openAt(hand).kind;
         }
 
-        private void goOn() {
-            hand = 0;
-            for (int i = 1; i <= tip && !done; i++) {
-                if (!goesOn(openAt(i))) {
-                    break;
-                }
-                hand = i;
-            }
-        }
-
         private boolean goesOn(Block b) {
             switch (b.kind) {
-                case QUOTE: return quoteGoesOn();
+                case QUOTE: return line.passQuoteMark();
                 case LIST: return true;
                 case ITEM: return itemGoesOn(b);
                 case PARAGRAPH: return !line.isBlank();
                 case CODE: return b.sign != 0 ? fencedGoesOn(b) : indentedGoesOn();
                 default: return false;
             }
-        }
-
-        private boolean quoteGoesOn() {
-            if (!line.hasQuoteMark()) {
-                return false;
-            }
-            line.passQuoteMark();
-            return true;
         }
 
         private boolean itemGoesOn(Block item) {
@@ -699,7 +702,7 @@ public final class MarkBlocks {
         }
 
         /** A kind, or one of the beginnings that are no kinds; NONE if nothing begins at the place. */
-        private int lookForBeginning() {
+        private int beginningAtPlace() {
             if (line.isBlank()) {
                 return NONE;
             }
@@ -788,8 +791,7 @@ public final class MarkBlocks {
                 return false;
             }
             push(QUOTE);
-            line.passQuoteMark();
-            return true;
+            return line.passQuoteMark();
         }
 
         private boolean beginItem() {
@@ -919,8 +921,7 @@ public final class MarkBlocks {
         private final Row parts;
         private final Row ends;
 
-        /** Where the text ends that is looked at, and what was found in it last. */
-        private int stop;
+        /** Where the parts of the definition that was found last stand in the text. */
         private int labelFrom;
         private int labelTo;
         private int targetFrom;
@@ -950,32 +951,42 @@ public final class MarkBlocks {
             if (k < 0 || k >= size() || what < 0 || what >= PARTS) {
                 return NONE;
             }
-            return ends.at(PARTS * k + what) - partFrom(k, what);
+            return partTo(k, what) - partFrom(k, what);
         }
 
         int partSign(int k, int what, int i) {
             return i >= 0 && i < partLength(k, what) ? parts.at(partFrom(k, what) + i) : NONE;
         }
 
-        /** For a k and a what that there are. */
+        /** For a k and a what that there are; so is partTo. */
         private int partFrom(int k, int what) {
             int part = PARTS * k + what;
             return part == 0 ? 0 : ends.at(part - 1);
         }
 
-        /** The definition with the label that stands there, made normal. */
-        int known(Row source, int from, int to) {
+        private int partTo(int k, int what) {
+            return ends.at(PARTS * k + what);
+        }
+
+        /** The definition of this label, which is made normal; NONE if there is none. */
+        int withLabel(Row source, int from, int to) {
             int mark = parts.size();
             addNormal(source, from, to);
-            int length = parts.size() - mark;
-            int found = NONE;
-            for (int k = 0; k < size() && found == NONE; k++) {
-                if (partLength(k, LABEL) == length && isSame(partFrom(k, LABEL), mark, length)) {
-                    found = k;
-                }
-            }
+            int found = withLabelAt(mark);
             parts.cut(mark);
             return found;
+        }
+
+        /** The definition of the label that stands behind all parts, from the mark on. */
+        private int withLabelAt(int mark) {
+            int length = parts.size() - mark;
+            for (int k = 0; k < size(); k++) {
+                int from = partFrom(k, LABEL);
+                if (partTo(k, LABEL) - from == length && isSame(from, mark, length)) {
+                    return k;
+                }
+            }
+            return NONE;
         }
 
         private boolean isSame(int one, int other, int length) {
@@ -1004,30 +1015,35 @@ public final class MarkBlocks {
             }
         }
 
-        /** Takes the paragraph's definitions and the white at its end; false if nothing is left. */
+        /**
+         * Takes the paragraph's definitions and the white at its end; false if nothing is left.
+         * The paragraph is open, so its text is the last of all and ends where the row does.
+         */
         boolean settle(Block paragraph) {
             int from = paragraph.textFrom;
-            stop = from + paragraph.textLength;
             int behind = behindDefinition(from);
             for (int turn = 0; turn < TAPE_LIMIT && behind != NONE; turn++) {
                 keep();
                 from = behind;
                 behind = behindDefinition(from);
             }
-            while (stop > from && isWhite(text.at(stop - 1))) {
-                stop--;
+            int to = text.size();
+            while (to > from && isWhite(text.at(to - 1))) {
+                to--;
             }
             paragraph.textFrom = from;
-            paragraph.textLength = stop - from;
-            return stop > from;
+            paragraph.textLength = to - from;
+            return to > from;
         }
 
         /** Of definitions of one label, the first counts. */
         private void keep() {
-            if (known(text, labelFrom, labelTo) != NONE) {
+            int mark = parts.size();
+            addNormal(text, labelFrom, labelTo);
+            if (withLabelAt(mark) != NONE) {
+                parts.cut(mark);
                 return;
             }
-            addNormal(text, labelFrom, labelTo);
             ends.add(parts.size());
             addUnescaped(targetFrom, targetTo);
             ends.add(parts.size());
@@ -1039,7 +1055,7 @@ public final class MarkBlocks {
             int i = from;
             while (i < to) {
                 int c = text.at(i);
-                int behind = c == '&' ? behindReference(i + 1, to) : NONE;
+                int behind = c == '&' ? Math.max(behindNumber(i, to), behindName(i, to)) : NONE;
                 if (behind > i) {
                     parts.add(told);
                     i = behind;
@@ -1053,22 +1069,19 @@ public final class MarkBlocks {
             }
         }
 
-        private int behindReference(int from, int to) {
-            return text.at(from) == '#' ? behindNumber(from + 1, to) : behindName(from, to);
-        }
-
+        /** The place behind the reference by number whose & stands there; NONE if there is none. */
         private int behindNumber(int from, int to) {
-            boolean isHexadecimal = text.at(from) == 'x' || text.at(from) == 'X';
+            boolean isHexadecimal = text.at(from + 2) == 'x' || text.at(from + 2) == 'X';
             int base = isHexadecimal ? 16 : 10;
             int most = isHexadecimal ? MOST_HEXADECIMALS : MOST_DECIMALS;
-            int first = isHexadecimal ? from + 1 : from;
+            int first = isHexadecimal ? from + 3 : from + 2;
             int value = 0;
             int i = first;
             while (i < to && i - first < most && digit(text.at(i), base) != NONE) {
                 value = base * value + digit(text.at(i), base);
                 i++;
             }
-            if (i == first || i >= to || text.at(i) != ';') {
+            if (text.at(from + 1) != '#' || i == first || i >= to || text.at(i) != ';') {
                 return NONE;
             }
             boolean isCharacter = value > 0 && value <= LAST_CHARACTER
@@ -1087,9 +1100,10 @@ public final class MarkBlocks {
             return base == 16 && c >= 'A' && c <= 'F' ? c - 'A' + 10 : NONE;
         }
 
+        /** The place behind the reference by name whose & stands there; NONE if there is none. */
         private int behindName(int from, int to) {
             int name = 0;
-            int i = from;
+            int i = from + 1;
             boolean isSo = true;
             for (int n = 0; n < NAMES.length() && name < NAMED.length; n++) {
                 isSo = isSo && i < to && text.at(i) == NAMES.charAt(n);
@@ -1102,51 +1116,47 @@ public final class MarkBlocks {
                     return i;
                 }
                 name++;
-                i = from;
+                i = from + 1;
                 isSo = true;
             }
             return NONE;
         }
 
-        private int signAt(int i) {
-            return i < stop ? text.at(i) : NONE;
-        }
-
         /** The place behind the definition that stands there; NONE if none does, as in all that follow. */
         private int behindDefinition(int from) {
             int colon = behindLabel(from);
-            if (colon == NONE || signAt(colon) != ':') {
+            if (colon == NONE || text.at(colon) != ':') {
                 return NONE;
             }
             int target = behindGap(colon + 1);
-            int behind = signAt(target) == '<' ? behindAngles(target) : behindSigns(target);
+            int behind = text.at(target) == '<' ? behindAngles(target) : behindSigns(target);
             if (behind == NONE) {
                 return NONE;
             }
             int title = behindGap(behind);
-            int behindTitle = title > behind ? behindTitle(title) : NONE;
-            int behindAll = behindTitle == NONE ? NONE : behindLine(behindTitle);
-            if (behindAll != NONE) {
-                return behindAll;
+            int titleEnd = title > behind ? behindTitle(title) : NONE;
+            int lineEnd = titleEnd == NONE ? NONE : behindLine(titleEnd);
+            if (lineEnd != NONE) {
+                return lineEnd;
             }
             titleTo = titleFrom;
             return behindLine(behind);
         }
 
         private int behindLabel(int from) {
-            if (signAt(from) != '[') {
+            if (text.at(from) != '[') {
                 return NONE;
             }
-            boolean isWhite = true;
+            boolean isAllWhite = true;
             int i = from + 1;
-            while (i < stop && signAt(i) != ']') {
-                if (signAt(i) == '[') {
+            while (i < text.size() && text.at(i) != ']') {
+                if (text.at(i) == '[') {
                     return NONE;
                 }
-                isWhite = isWhite && isWhite(signAt(i));
-                i += signAt(i) == '\\' ? 2 : 1;
+                isAllWhite = isAllWhite && isWhite(text.at(i));
+                i += text.at(i) == '\\' ? 2 : 1;
             }
-            if (i >= stop || isWhite || i - from - 1 > LONGEST_LABEL) {
+            if (i >= text.size() || isAllWhite || i - from - 1 > LONGEST_LABEL) {
                 return NONE;
             }
             labelFrom = from + 1;
@@ -1155,21 +1165,21 @@ public final class MarkBlocks {
         }
 
         private int behindGap(int from) {
-            int i = behindSpaces(from);
-            return signAt(i) == LINE_FEED ? behindSpaces(i + 1) : i;
-        }
-
-        private int behindSpaces(int from) {
+            boolean isBehindLine = false;
             int i = from;
-            while (i < stop && text.at(i) == SPACE) {
+            while (i < text.size() && (text.at(i) == SPACE || text.at(i) == LINE_FEED && !isBehindLine)) {
+                isBehindLine = isBehindLine || text.at(i) == LINE_FEED;
                 i++;
             }
             return i;
         }
 
         private int behindLine(int from) {
-            int i = behindSpaces(from);
-            if (i >= stop) {
+            int i = from;
+            while (i < text.size() && text.at(i) == SPACE) {
+                i++;
+            }
+            if (i >= text.size()) {
                 return i;
             }
             return text.at(i) == LINE_FEED ? i + 1 : NONE;
@@ -1177,13 +1187,13 @@ public final class MarkBlocks {
 
         private int behindAngles(int from) {
             int i = from + 1;
-            while (i < stop && signAt(i) != '>') {
-                if (signAt(i) == '<' || signAt(i) == LINE_FEED) {
+            while (i < text.size() && text.at(i) != '>') {
+                if (text.at(i) == '<' || text.at(i) == LINE_FEED) {
                     return NONE;
                 }
-                i += signAt(i) == '\\' && signAt(i + 1) != LINE_FEED ? 2 : 1;
+                i += text.at(i) == '\\' && text.at(i + 1) != LINE_FEED ? 2 : 1;
             }
-            if (i >= stop) {
+            if (i >= text.size()) {
                 return NONE;
             }
             targetFrom = from + 1;
@@ -1194,12 +1204,12 @@ public final class MarkBlocks {
         private int behindSigns(int from) {
             int depth = 0;
             int i = from;
-            while (i < stop && signAt(i) > SPACE && signAt(i) != DELETE) {
-                if (signAt(i) == ')' && depth == 0) {
+            while (i < text.size() && text.at(i) > SPACE && text.at(i) != DELETE) {
+                if (text.at(i) == ')' && depth == 0) {
                     break;
                 }
-                depth += signAt(i) == '(' ? 1 : signAt(i) == ')' ? -1 : 0;
-                i += signAt(i) == '\\' && isPunctuation(signAt(i + 1)) ? 2 : 1;
+                depth += text.at(i) == '(' ? 1 : text.at(i) == ')' ? -1 : 0;
+                i += text.at(i) == '\\' && isPunctuation(text.at(i + 1)) ? 2 : 1;
             }
             if (i == from || depth != 0) {
                 return NONE;
@@ -1210,19 +1220,19 @@ public final class MarkBlocks {
         }
 
         private int behindTitle(int from) {
-            int sign = signAt(from);
+            int sign = text.at(from);
             if (sign != '"' && sign != '\'' && sign != '(') {
                 return NONE;
             }
             int last = sign == '(' ? ')' : sign;
             int i = from + 1;
-            while (i < stop && signAt(i) != last) {
-                if (signAt(i) == '(' && sign == '(') {
+            while (i < text.size() && text.at(i) != last) {
+                if (text.at(i) == '(' && sign == '(') {
                     return NONE;
                 }
-                i += signAt(i) == '\\' ? 2 : 1;
+                i += text.at(i) == '\\' ? 2 : 1;
             }
-            if (i >= stop) {
+            if (i >= text.size()) {
                 return NONE;
             }
             titleFrom = from + 1;
