@@ -580,7 +580,6 @@ public final class MarkBlocks {
         private int hand;
         private int number;
         private boolean done;
-        private boolean begun;
 
         /** Of the fence of the open CODE: one CODE at most is open. */
         private int fenceLength;
@@ -606,7 +605,6 @@ public final class MarkBlocks {
         void goOn(int lineNumber) {
             number = lineNumber;
             done = false;
-            begun = false;
             hand = 0;
             for (int i = 1; i <= tip && goesOn(openAt(i)); i++) {
                 hand = i;
@@ -782,7 +780,6 @@ public final class MarkBlocks {
                 open[tip] = b;
             }
             hand = tip;
-            begun = true;
             return b;
         }
 
@@ -860,8 +857,9 @@ public final class MarkBlocks {
             return i;
         }
 
+        /** Where something has begun in this line, all that had not gone on is closed: hand and tip are one then. */
         private boolean goesOnWithoutMarks() {
-            return !begun && hand < tip && !line.isBlank() && openAt(tip).kind == PARAGRAPH;
+            return hand < tip && !line.isBlank() && openAt(tip).kind == PARAGRAPH;
         }
 
         private void addRest() {

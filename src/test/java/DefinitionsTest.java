@@ -159,6 +159,7 @@ public final class DefinitionsTest {
         probe.defines("[a]: \\0\\9\\A\\z\\\u0080", "'a'='\\0\\9\\A\\z\\\u0080'");
         probe.defines("[a]: b \"\\a\\&amp;\\\\&amp;\"", "'a'='b','\\a&amp;\\&'");
         probe.defines("[a]: b \"c\\\nd\"", "'a'='b','c\\/d'");
+        probe.defines("[a]: <\\ \\\u007f>", "'a'='\\ \\\u007f'");
         probe.defines("[\\!&amp;]: b", "'\\!&amp;'='b'");
     }
 
@@ -173,6 +174,10 @@ public final class DefinitionsTest {
         probe.defines("[a]: &#38;amp;", "'a'='&amp;'");
         probe.defines("[a]: &&amp;", "'a'='&&'");
         probe.defines("[a]: b '&quot;&#10;'", "'a'='b','\"/'");
+        probe.defines("[a]: &#x4a;&#x4b;&#x4c;&#x4d;&#x4e;&#x4f;&#x4A;&#x4B;&#x4C;&#x4D;&#x4E;&#x4F;", "'a'='JKLMNOJKLMNO'");
+        probe.defines("[a]: &#x4`;&#x4g;&#x4@;&#x4G;&#x4/;&#x4:;&#4a;&#4/;&#4:;",
+            "'a'='&#x4`;&#x4g;&#x4@;&#x4G;&#x4/;&#x4:;&#4a;&#4/;&#4:;'");
+        probe.defines("[a]: &#1;&#x1;", "'a'='\u0001\u0001'");
         MarkBlocks x = Probe.reading("[a]: &#1114111;&#x1F600;&#55295;&#55296;&#57343;&#57344;&#xabcdef;&#32;");
         int[] want = {1114111, 128512, 55295, 65533, 65533, 57344, 65533, 32};
         probe.due("length of references", x.definition(0, 1), want.length);

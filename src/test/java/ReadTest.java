@@ -44,6 +44,8 @@ public final class ReadTest {
         count("- + - + - +\n- + - + - +\n", 24);
         count(">>>>>>>>>>>> a\n\n>>>>>>>>>>>> # b\n", 27);
         count("- + - + - + # h", 14);
+        count("- + - + - + a\n          + b", 16);
+        probe.tooDeep("- + - + - + a\n          + > b", 1);
         count("- + - + - +     c", 14);
         count(">>>>>>>>>>>>     >", 14);
         count("a\n    >>>>>>>>>>>>>", 2);
