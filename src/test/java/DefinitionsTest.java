@@ -19,20 +19,6 @@ public final class DefinitionsTest {
         probe.finish();
     }
 
-    /** The text is one paragraph that is no definition and stays as it is. */
-    private static void none(String text) {
-        MarkBlocks x = Probe.reading(text);
-        probe.due("definitions() of " + Probe.quoted(text), x.definitions(), 0);
-        probe.due("text of " + Probe.quoted(text), Probe.textOf(x, 1, false), text);
-    }
-
-    /** The definitions, and what is left of the paragraph. */
-    private static void left(String text, String wantDefined, String wantLeft) {
-        MarkBlocks x = Probe.reading(text);
-        probe.due("definitions of " + Probe.quoted(text), Probe.definitionsOf(x), wantDefined);
-        probe.due("left of " + Probe.quoted(text), Probe.textOf(x, 1, false), wantLeft);
-    }
-
     private static void forms() {
         probe.defines("[a]: b", "'a'='b'");
         probe.defines("[a]:b", "'a'='b'");
@@ -40,14 +26,14 @@ public final class DefinitionsTest {
         probe.defines("[a]: <b c> 'd e'", "'a'='b c','d e'");
         probe.defines("[a]: b (c)\n[d]: e\n[f]: g", "'a'='b','c' 'd'='e' 'f'='g'");
         probe.defines("   [a]: b", "'a'='b'");
-        none("[a] : b");
-        none("[a] b");
-        none("[a]");
-        none("[a]:");
-        none("a [a]: b");
-        none("[a]: b c");
-        left("[a]: b\nc", "'a'='b'", "c");
-        left("[a]: b\n[c]\n[d]: e", "'a'='b'", "[c]\n[d]: e");
+        probe.definesNone("[a] : b");
+        probe.definesNone("[a] b");
+        probe.definesNone("[a]");
+        probe.definesNone("[a]:");
+        probe.definesNone("a [a]: b");
+        probe.definesNone("[a]: b c");
+        probe.left("[a]: b\nc", "'a'='b'", "c");
+        probe.left("[a]: b\n[c]\n[d]: e", "'a'='b'", "[c]\n[d]: e");
         probe.outline("    [a]: b", "(document 0-0 (code 0-0 '[a]: b/'))");
     }
 
@@ -56,8 +42,8 @@ public final class DefinitionsTest {
         probe.defines("[a]:\nb\n'c'", "'a'='b','c'");
         probe.defines("[a]:\tb\t'c'\t", "'a'='b','c'");
         probe.outline("[a]:\n\nb", "(document 0-2 (paragraph 0-0 '[a]:') (paragraph 2-2 'b'))");
-        left("[a]: b\n\n'c'", "'a'='b'", "'c'");
-        none("[a]: <b>'c'");
+        probe.left("[a]: b\n\n'c'", "'a'='b'", "'c'");
+        probe.definesNone("[a]: <b>'c'");
         probe.defines("[a]: b'c'", "'a'='b'c''");
     }
 
@@ -65,24 +51,24 @@ public final class DefinitionsTest {
         probe.defines("[ A  b\n c ]: d", "'a b c'='d'");
         probe.defines("[\\[\\]]: a", "'\\[\\]'='a'");
         probe.defines("[\\\\]: a", "'\\\\'='a'");
-        none("[\\\\\\]: a");
-        none("[a\\]: b");
-        none("[a[b]: c");
-        none("[a]b]: c");
-        none("[]: a");
-        none("[ \n ]: a".replace("\n ", "\n"));
+        probe.definesNone("[\\\\\\]: a");
+        probe.definesNone("[a\\]: b");
+        probe.definesNone("[a[b]: c");
+        probe.definesNone("[a]b]: c");
+        probe.definesNone("[]: a");
+        probe.definesNone("[ \n ]: a".replace("\n ", "\n"));
         probe.defines("[\\]]: a", "'\\]'='a'");
         probe.defines("[!]: a", "'!'='a'");
         probe.defines("[\u00c0AZ@]: a", "'\u00c0az@'='a'");
         probe.defines("[\\a\\]b]: c", "'\\a\\]b'='c'");
         String hundred = "a".repeat(100);
         probe.defines("[" + hundred + "]: b", "'" + hundred + "'='b'");
-        none("[" + hundred + "a]: b");
+        probe.definesNone("[" + hundred + "a]: b");
         String escaped = "\\]".repeat(50);
         probe.defines("[" + escaped + "]: b", "'" + escaped + "'='b'");
-        none("[" + escaped + "a]: b");
+        probe.definesNone("[" + escaped + "a]: b");
         probe.defines("[a" + " ".repeat(98) + "b]: c", "'a b'='c'");
-        none("[a" + " ".repeat(99) + "b]: c");
+        probe.definesNone("[a" + " ".repeat(99) + "b]: c");
     }
 
     private static void targetsInAngles() {
@@ -91,30 +77,30 @@ public final class DefinitionsTest {
         probe.defines("[a]: <b)( \u007fc>", "'a'='b)( \u007fc'");
         probe.defines("[a]: <\\<b\\>>", "'a'='<b>'");
         probe.defines("[a]: <b\\\\>", "'a'='b\\'");
-        none("[a]: <b");
-        none("[a]: <b\nc>");
-        none("[a]: <b\\\nc>");
-        none("[a]: <b<c>");
-        none("[a]: <b\\>");
-        none("[a]: <b>c");
-        none("[a]: <b>>");
-        left("[a]: <b>\nc>", "'a'='b'", "c>");
+        probe.definesNone("[a]: <b");
+        probe.definesNone("[a]: <b\nc>");
+        probe.definesNone("[a]: <b\\\nc>");
+        probe.definesNone("[a]: <b<c>");
+        probe.definesNone("[a]: <b\\>");
+        probe.definesNone("[a]: <b>c");
+        probe.definesNone("[a]: <b>>");
+        probe.left("[a]: <b>\nc>", "'a'='b'", "c>");
     }
 
     private static void targetsOfSigns() {
         probe.defines("[a]: b(c)d", "'a'='b(c)d'");
         probe.defines("[a]: ((b)(c))", "'a'='((b)(c))'");
-        none("[a]: (b");
-        none("[a]: b)");
-        none("[a]: )");
-        none("[a]: (b))");
+        probe.definesNone("[a]: (b");
+        probe.definesNone("[a]: b)");
+        probe.definesNone("[a]: )");
+        probe.definesNone("[a]: (b))");
         probe.defines("[a]: \\(b\\)\\)", "'a'='(b))'");
         probe.defines("[a]: b\\\\(c)", "'a'='b\\(c)'");
-        none("[a]: b\\\\(c");
-        none("[a]: b\u007fc");
-        none("[a]: b\u0001c");
-        none("[a]: \u0001");
-        none("[a]: b\0");
+        probe.definesNone("[a]: b\\\\(c");
+        probe.definesNone("[a]: b\u007fc");
+        probe.definesNone("[a]: b\u0001c");
+        probe.definesNone("[a]: \u0001");
+        probe.definesNone("[a]: b\0");
         probe.defines("[a]: \u0080\u00ff", "'a'='\u0080\u00ff'");
         probe.defines("[a]: b<c>", "'a'='b<c>'");
         probe.defines("[a]: \\<b", "'a'='<b'");
@@ -141,17 +127,17 @@ public final class DefinitionsTest {
     }
 
     private static void titlesThatCannotBe() {
-        none("[a]: b \"c\" d");
-        none("[a]: b \"c");
-        none("[a]: b (c(d)");
-        none("[a]: b \"c\\\"");
-        none("[a]: b 'c\"");
-        left("[a]: b\n\"c\" d", "'a'='b'", "\"c\" d");
-        left("[a]: b\n\"c", "'a'='b'", "\"c");
-        left("[a]: b\n(c(d)", "'a'='b'", "(c(d)");
-        left("[a]: b \"c\"\n\"d\"", "'a'='b','c'", "\"d\"");
-        left("[a]: b\n'c'\n[d]: e f", "'a'='b','c'", "[d]: e f");
-        left("[a]: b\n\"c\n[d]: e", "'a'='b'", "\"c\n[d]: e");
+        probe.definesNone("[a]: b \"c\" d");
+        probe.definesNone("[a]: b \"c");
+        probe.definesNone("[a]: b (c(d)");
+        probe.definesNone("[a]: b \"c\\\"");
+        probe.definesNone("[a]: b 'c\"");
+        probe.left("[a]: b\n\"c\" d", "'a'='b'", "\"c\" d");
+        probe.left("[a]: b\n\"c", "'a'='b'", "\"c");
+        probe.left("[a]: b\n(c(d)", "'a'='b'", "(c(d)");
+        probe.left("[a]: b \"c\"\n\"d\"", "'a'='b','c'", "\"d\"");
+        probe.left("[a]: b\n'c'\n[d]: e f", "'a'='b','c'", "[d]: e f");
+        probe.left("[a]: b\n\"c\n[d]: e", "'a'='b'", "\"c\n[d]: e");
     }
 
     private static void escapes() {

@@ -5,6 +5,12 @@ final class Probe {
 
     private int wrong = 0;
     private int looked = 0;
+    private String sentence = "";
+
+    /** The document's words that the next answers are about: they are printed with each wrong one. */
+    void sentence(String words) {
+        sentence = words;
+    }
 
     /** Prints the call if its answer is not the one that is due. */
     void due(String call, Object got, Object want) {
@@ -12,6 +18,7 @@ final class Probe {
         if (!String.valueOf(got).equals(String.valueOf(want))) {
             wrong++;
             System.out.println(call + "\n  answered " + got + "\n  due is   " + want);
+            System.out.print(sentence.isEmpty() ? "" : "  by        " + sentence + "\n");
         }
     }
 
@@ -23,6 +30,18 @@ final class Probe {
     /** The text is read by a new object and its definitions are told. */
     void defines(String text, String want) {
         due("definitions of " + quoted(text), definitionsOf(reading(text)), want);
+    }
+
+    /** The text's first paragraph has these definitions, and this is left of it. */
+    void left(String text, String wantDefined, String wantLeft) {
+        MarkBlocks x = reading(text);
+        due("definitions of " + quoted(text), definitionsOf(x), wantDefined);
+        due("left of " + quoted(text), textOf(x, 1, false), wantLeft);
+    }
+
+    /** The text is one paragraph that has no definition and stays as it is. */
+    void definesNone(String text) {
+        left(text, "", text);
     }
 
     /** The text is too deep in that line. */
