@@ -75,11 +75,28 @@ public final class RoomTest {
             Probe.put(x, text.toString());
             Probe.read(x);
             lookAtOrder(x, text.toString());
+            if (pieces < 40) {
+                lookAsNew(x, text.toString());
+            }
             x.find();
             x.block(random.nextInt(), random.nextInt());
             x.letter(random.nextInt(), random.nextBoolean(), random.nextInt());
             x.definition(random.nextInt(), random.nextInt());
             x.defined(random.nextInt(), random.nextInt(), random.nextInt());
+        }
+    }
+
+    /** An object that has read many texts tells of the latest what a new one does. */
+    private static void lookAsNew(MarkBlocks used, String text) {
+        MarkBlocks fresh = new MarkBlocks();
+        Probe.put(fresh, text);
+        Probe.read(fresh);
+        probe.due("fault() of " + Probe.quoted(text), used.fault(), fresh.fault());
+        probe.due("about(1) of " + Probe.quoted(text), used.about(1), fresh.about(1));
+        probe.due("about(2) of " + Probe.quoted(text), used.about(2), fresh.about(2));
+        probe.due("definitions of " + Probe.quoted(text), Probe.definitionsOf(used), Probe.definitionsOf(fresh));
+        if (fresh.about(1) > 0) {
+            probe.due("outline of " + Probe.quoted(text), Probe.outlineOf(used), Probe.outlineOf(fresh));
         }
     }
 
