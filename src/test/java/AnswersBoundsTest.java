@@ -10,6 +10,7 @@ public final class AnswersBoundsTest {
         readTooDeep();
         readBehindTooDeep();
         readAgain();
+        readWithNothingOpen();
         faultAheadOfAny();
         faultOfLatest();
         blockNumbers();
@@ -120,6 +121,24 @@ public final class AnswersBoundsTest {
         probe.due("read() of nothing", Probe.read(x), 1);
         probe.due("definitions() of nothing", x.definitions(), 0);
         probe.due("block(1, 0) of nothing", x.block(1, 0), NONE);
+    }
+
+    private static void readWithNothingOpen() {
+        probe.sentence("TOO DEEP (there is no document and no definition then)");
+        String[] deep = {">".repeat(13), "1) ".repeat(7), "a\n" + ">".repeat(12) + "a\n" + ">".repeat(12) + "- b"};
+        String[] texts = {"> a", ">> a\n> b", "- a", "   a", "\n\n> a", "   1) a", "a", ""};
+        for (String ahead : deep) {
+            for (String text : texts) {
+                MarkBlocks x = new MarkBlocks();
+                Probe.put(x, ahead);
+                probe.due("read() of " + Probe.quoted(ahead), Probe.read(x), "throws");
+                x.wipe();
+                Probe.put(x, text);
+                Probe.read(x);
+                probe.due("outline of " + Probe.quoted(text) + " behind " + Probe.quoted(ahead),
+                    Probe.outlineOf(x), Probe.outlineOf(Probe.reading(text)));
+            }
+        }
     }
 
     private static void faultAheadOfAny() {
